@@ -1,0 +1,111 @@
+import java.util.Arrays;
+import java.util.NoSuchElementException;
+import java.util.function.LongSupplier;
+
+/** What the tests share: answers that are due, and texts given sign by sign. */
+final class Check {
+    /** What a call counts as that throws NoSuchElementException. */
+    static final long NO_SUCH = Long.MIN_VALUE;
+
+    private static int wrong = 0;
+    private static int asked = 0;
+
+    private Check() {
+    }
+
+    static void due(String what, long got, long want) {
+        asked++;
+        if (got != want) {
+            wrong++;
+            System.out.println(what + ": answered " + got + ", due is " + want);
+        }
+    }
+
+    static void due(String what, boolean got, boolean want) {
+        due(what, got ? 1 : 0, want ? 1 : 0);
+    }
+
+    /** The answer, and all told numbers behind it. */
+    static void due(String what, HopCourts x, long got, long want, long... told) {
+        due(what, got, want);
+        asked++;
+        long[] are = told(x);
+        if (!Arrays.equals(are, told)) {
+            wrong++;
+            System.out.println(what + ": told " + Arrays.toString(are) + ", due is " + Arrays.toString(told));
+        }
+    }
+
+    static void noSuch(String what, LongSupplier call) {
+        due(what + " throws", answer(call), NO_SUCH);
+    }
+
+    static long answer(LongSupplier call) {
+        try {
+            return call.getAsLong();
+        } catch (NoSuchElementException e) {
+            return NO_SUCH;
+        }
+    }
+
+    static long[] told(HopCourts x) {
+        long[] numbers = new long[x.count(10)];
+        for (int i = 0; i < numbers.length; i++) {
+            numbers[i] = x.row(i);
+        }
+        return numbers;
+    }
+
+    /** Puts a text in place of THE TEXT; the last four signs are filled and cut. */
+    static void text(HopCourts x, String signs) {
+        x.end(0);
+        for (int i = 0; i < signs.length(); i += 4) {
+            int v = 0;
+            for (int k = i; k < i + 4; k++) {
+                v = v << 8 | (k < signs.length() ? signs.charAt(k) & 255 : 0);
+            }
+            x.sign(v);
+        }
+        x.end(signs.length());
+    }
+
+    static int court(HopCourts x, String signs) {
+        text(x, signs);
+        return x.court();
+    }
+
+    static int players(HopCourts x, String signs) {
+        text(x, signs);
+        return x.players();
+    }
+
+    static int rule(HopCourts x, String signs) {
+        text(x, signs);
+        return x.rule();
+    }
+
+    static int game(HopCourts x, String signs) {
+        text(x, signs);
+        return x.game();
+    }
+
+    static int law(HopCourts x, String signs) {
+        text(x, signs);
+        return x.law();
+    }
+
+    /** A new object with a court and PLAYERS. */
+    static HopCourts made(String court, String players) {
+        HopCourts x = new HopCourts();
+        due("court " + court, court(x, court) > 0, true);
+        due("players " + players, players(x, players) >= 0, true);
+        return x;
+    }
+
+    static void end(String name) {
+        System.out.println(name + ": " + asked + " answers asked, " + wrong + " wrong");
+        if (wrong > 0 || asked == 0) {
+            System.exit(1);
+        }
+    }
+}
