@@ -157,12 +157,12 @@ public final class HopCourts {
         before.copy(now);
         int thrower = now.turn();
         int stone = now.goalOf(thrower) + ruling.off(now, thrower);
-        int right = throwNow();
+        boolean right = now.makeThrow(ruling);
         past.add(before);
         told.clear();
         told.add(100 + stone);
         told.add(now.turn());
-        return right;
+        return right ? 1 : 0;
     }
 
     public int plays(int n) {
@@ -781,7 +781,7 @@ public final class HopCourts {
         int third = text.digitAt(at + 3);
         switch (text.signAt(at, text.length())) {
             case '*':
-                return throwNow();
+                return now.many() == 0 ? NONE : now.makeThrow(ruling) ? 1 : 0;
             case '/':
                 return passNow();
             case 't':
@@ -801,13 +801,6 @@ public final class HopCourts {
             past.add(before);
         }
         return answer;
-    }
-
-    private int throwNow() {
-        if (now.many() == 0) {
-            return NONE;
-        }
-        return now.makeThrow(ruling) ? 1 : 0;
     }
 
     private int passNow() {
