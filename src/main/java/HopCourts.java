@@ -1486,6 +1486,7 @@ public final class HopCourts {
             return set;
         }
 
+        /** SQUARES that are no HOUSES: NOBODY is no player, so that all who own are others. */
         int nobodys() {
             return ground.allSquares() & ~othersHouses(NOBODY);
         }

@@ -97,6 +97,8 @@ public final class CluesLawsTest {
         Check.rule(z, "0");
         z.plays(3);
         Check.due("GOAL", z, z.asks(), 21, 1);
+        HopCourts far = Check.made("1", "29;28");
+        Check.due("AIM 9", far, far.asks(), 19, 1);
         HopCourts four = Check.made("1", "10;11;12;13");
         Check.due("two and two", four, four.asks(), 12, 2);
     }
@@ -150,5 +152,10 @@ public final class CluesLawsTest {
         Check.due("one law", x, x.looks(), 0, 1);
         x.saw(0, 1);
         Check.due("none fits", x, x.looks(), -2, 1);
+        // a 5 or 6, b 0: by n 6 alone they differ.
+        HopCourts y = new HopCourts();
+        y.saw(0, 0);
+        y.saw(5, 0);
+        Check.due("n 6", y, y.looks(), 6, 1);
     }
 }

@@ -168,12 +168,31 @@ public final class LuckRestsTest {
         Check.due("n 0", none, none.years(1, 0), -1, 9, 9);
         Check.due("n 61", none, none.years(1, 61), -1, 9, 9);
         Check.due("no players", none, none.years(1, 60), 0, 0, 0);
+        HopCourts alone = Check.made("2", "10");
+        Check.rule(alone, "0");
+        Check.due("one player", alone, alone.years(1, 4), yearsAlone(1, 4), 0, 0);
+        Check.due("one player, 30 times", alone, alone.years(1, 30), yearsAlone(1, 30), 0, 0);
         for (int seed = -40; seed <= 40; seed++) {
             yearsBySeed(seed * 77777777, 1 + Math.floorMod(seed, 60));
         }
     }
 
-    /** Another object goes through the same by throwsOne() and sheet(). */
+    /** How many THROWS are drawn, if there is one player. */
+    private static int yearsAlone(int seed, int n) {
+        int r = seed;
+        int made = 0;
+        for (int i = 0; i < n; i++) {
+            r = r * 1103515245 + 12345;
+            if ((r >>> 16) % 4 == 3) {
+                r = (r * 1103515245 + 12345) * 1103515245 + 12345;
+            } else {
+                made++;
+            }
+        }
+        return made;
+    }
+
+    /** Another object goes through the same by throwsOne() and rules that tell AIMS. */
     private static void yearsBySeed(int seed, int n) {
         HopCourts x = Check.made("121", "13;25;21");
         HopCourts y = Check.made("121", "13;25;21");
@@ -197,7 +216,7 @@ public final class LuckRestsTest {
         Check.due("AIMS stay", x.player(0, 1) * 100 + x.player(1, 1) * 10 + x.player(2, 1), 351);
     }
 
-    /** A sheet tells f, f + step, .., so three AIMS are told by a rule of their own. */
+    /** A sheet tells f, f + step, .. alone, so that any three AIMS are told by a rule of their own. */
     private static void setAims(HopCourts y, int[] aims) {
         StringBuilder rule = new StringBuilder();
         for (int i = 0; i < 3; i++) {
