@@ -102,6 +102,43 @@ final class Check {
         return x;
     }
 
+    /** Two PLAYERS of such REACH, AIM 0, PLACE 0, who own SQUARES (bits); by THE RULE 0; TURN is 0. */
+    static HopCourts owned(String court, int reach, int houses, int reachOfOther, int housesOfOther) {
+        HopCourts x = made(court, "40;40");
+        due("rule", rule(x, "0"), 0);
+        int squares = x.count(1);
+        for (int square = 0; square < squares; square++) {
+            if (square % 8 == 0) {
+                for (int player = 0; player < 2; player++) {
+                    // Rounds go on without a fault, as long as REACH 4 comes over what the other one owns.
+                    int wanted = Integer.bitCount((player == 0 ? houses : housesOfOther) >> square & 255);
+                    for (int round = 0; round < 9 && x.player(player, 6) < wanted; round++) {
+                        x.plays(freeOf(x, player));
+                    }
+                    due("PLACE", x.player(player, 2), 0);
+                    due("no FAULTS", x.count(5), 0);
+                    x.passes();
+                }
+            }
+            if ((houses >> square & 1) != 0) {
+                due("takes", x.takes(0, square) > 0, true);
+            }
+            if ((housesOfOther >> square & 1) != 0) {
+                due("takes", x.takes(1, square) > 0, true);
+            }
+        }
+        x.grows(0, reach);
+        x.grows(1, reachOfOther);
+        due("HOUSES", x.player(0, 4), houses);
+        due("HOUSES", x.player(1, 4), housesOfOther);
+        x.fits();
+        return x;
+    }
+
+    private static int freeOf(HopCourts x, int player) {
+        return x.count(1) - Integer.bitCount(x.player(1 - player, 4));
+    }
+
     static void end(String name) {
         System.out.println(name + ": " + asked + " answers asked, " + wrong + " wrong");
         if (wrong > 0 || asked == 0) {
