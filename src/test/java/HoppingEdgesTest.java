@@ -9,6 +9,7 @@ public final class HoppingEdgesTest {
         stonesNowhere();
         hopTellsTheLeast();
         waysOfAll();
+        courtsOneBehindTheOther();
         trapsCount();
         needsAnswers();
         gapAnswers();
@@ -166,6 +167,28 @@ public final class HoppingEdgesTest {
         Check.due("19: a ROW of two counts once", x, x.ways(0, 5), 5, 3, 1);
         Check.due("19: so, too, with a stone in it", x, x.ways(0, 0), 5, 3, 1);
         Check.due("19: ROW 1 is not free", x, x.ways(0, 2), 1, 2, 2);
+    }
+
+    /** Nothing is left of what was asked in another court. */
+    private static void courtsOneBehindTheOther() {
+        HopCourts x = new HopCourts();
+        String[] courts = {"22222222", "1", "11111111", "2", "12", "111111"};
+        for (String court : courts) {
+            Check.due("4: " + court, Check.court(x, court) > 0, true);
+            Check.players(x, "10;40");
+            int rows = court.length();
+            Check.due("18: " + court, x.hop(0, x.count(1)), rows + 1);
+            Check.due("19: " + court, x, x.ways(0, x.count(1)), 1, rows, rows);
+            int fewest = rows / 4;
+            Check.due("18: by 4, " + court, x.hop(1, x.count(1)), fewest + 1);
+            Check.due("19: by 4, " + court, x.ways(1, x.count(1)) > 0, true);
+            Check.due("19: the most", x.row(0), rows);
+            Check.due("19: the fewest", x.row(1), fewest);
+            int ones = court.startsWith("1") ? 1 : 0;
+            Check.due("20: " + court, x.traps(0) & 1, ones);
+            Check.due("22: " + court, x.gap(0), 0);
+            Check.due("42: " + court, x.dare(0, 1), rows % 2 == 0 ? 1 : 0);
+        }
     }
 
     /** 20: "SQUARES that are no HOUSES of others .. from which as GOALS a player can't hop through". */

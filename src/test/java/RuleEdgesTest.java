@@ -15,6 +15,7 @@ public final class RuleEdgesTest {
         endsTooEarly();
         moreThanForty();
         emptyRules();
+        fortyThings();
         refusedRulesStay();
         divisions();
         bindings();
@@ -230,6 +231,27 @@ public final class RuleEdgesTest {
         Check.rule(x, "1");
         // THROWS 1 to 30 by 7: 1, five of 2 to 6, then thrice 0 and 1 and five others, then 0, 1, 2.
         Check.due("44: none is n>a", x, Check.law(x, ""), 9, 9, 0, 21, 30);
+    }
+
+    /** Each of 40 signs may count, and nothing is left of a former rule. */
+    private static void fortyThings() {
+        String forty = "-1" + "+1-1".repeat(9) + "+0";
+        Check.due("40 signs", forty.length(), 40);
+        off(forty, -1);
+        HopCourts x = Check.made("1", "40");
+        for (int i = 0; i < 3; i++) {
+            Check.due("6: 40", Check.rule(x, forty), 0);
+            Check.due("OFF by 40", x.player(0, 7), 9);
+        }
+        for (int i = 0; i < 3; i++) {
+            Check.due("6: none behind 40", Check.rule(x, ""), 0);
+            Check.due("OFF by n>a", x.player(0, 7), 10);
+        }
+        Check.rule(x, forty);
+        Check.rule(x, forty);
+        Check.due("6: a short one behind 40", Check.rule(x, "3-1"), 0);
+        Check.due("OFF by 3-1", x.player(0, 7), 12);
+        Check.due("44: none behind 40", Check.law(x, ""), 5);
     }
 
     private static void refusedRulesStay() {

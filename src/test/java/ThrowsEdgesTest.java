@@ -364,23 +364,38 @@ public final class ThrowsEdgesTest {
         for (int i = 0; i < 6; i++) {
             x.plays(59);
         }
-        x.takes(0, 0);
-        x.takes(1, 1);
-        x.takes(1, 2);
-        x.takes(2, 4);
-        x.takes(3, 7);
-        x.takes(3, 6);
-        Check.due("TURN's PLACES differ", x.plays(1) >= 0, true);
+        for (int player = 0; player < 4; player++) {
+            Check.due("13: one each", x.takes(player, new int[] {0, 2, 4, 7}[player]), 1);
+        }
+        Check.rule(x, "0");
+        for (int player = 0; player < 4; player++) {
+            for (int i = 0; i < 8 && x.player(x.count(3), 2) == 0; i++) {
+                x.throwsOne();
+            }
+            x.passes();
+        }
         int[][] first = new int[4][7];
         for (int player = 0; player < 4; player++) {
             for (int what = 0; what < 7; what++) {
                 first[player][what] = x.player(player, what);
             }
         }
-        Check.due("HOUSES", first[0][4] + first[1][4] + first[2][4] + first[3][4], 1 + 6 + 16 + 192);
+        Check.due("HOUSES", first[0][4] + first[1][4] + first[2][4] + first[3][4], 1 + 4 + 16 + 128);
+        int[] owners = {0, 4, 1, 4, 2, 4, 4, 3};
+        for (int square = 0; square < 8; square++) {
+            Check.due("7: whose HOUSE", x.square(square, 1), owners[square]);
+        }
+        x.sheet(2, 4, 9, -2);
+        for (int player = 0; player < 4; player++) {
+            Check.due("9: AIM", x.player(player, 1), 9 - 2 * player);
+            first[player][1] = 9 - 2 * player;
+            for (int what : new int[] {0, 2, 4, 5, 6}) {
+                Check.due("9: nothing but AIMS", x.player(player, what), first[player][what]);
+            }
+        }
         for (int player = 0; player < 4; player++) {
             x.grows(player, 1 + (player + 1) % 4);
-            x.leaves(player, new int[] {0, 1, 4, 7}[player]);
+            x.leaves(player, new int[] {0, 2, 4, 7}[player]);
             for (int other = 0; other < 4; other++) {
                 if (other != player) {
                     for (int what : new int[] {0, 1, 2, 4, 5, 6}) {
@@ -391,6 +406,8 @@ public final class ThrowsEdgesTest {
             x.undo();
             x.undo();
         }
+        Check.due("PLACES of the first and the last are not 0", first[0][2] * first[3][2] != 0, true);
+        Check.due("FAULTS of each are not 0", first[0][5] * first[1][5] * first[2][5] * first[3][5] != 0, true);
         Check.due("48: FAULTS of all", x.count(5), first[0][5] + first[1][5] + first[2][5] + first[3][5]);
         Check.due("48: RIGHTS of all", x.count(6), first[0][6] + first[1][6] + first[2][6] + first[3][6]);
     }
@@ -498,7 +515,8 @@ public final class ThrowsEdgesTest {
     }
 
     private static void undone(String what, HopCourts x, Twin.Call act) {
-        x.sheet(2, x.count(2), 2, 3);
+        // AIMS that differ from those ahead of the act before: each act must be kept by itself.
+        x.sheet(2, x.count(2), (x.player(0, 1) + 1) % 4, 2);
         List<Long> before = Twin.seen(x);
         int left = x.count(9);
         Check.due(what + " is done", act.on(x) >= 0, true);
