@@ -11,6 +11,7 @@ public final class ThrowsToComeEdgesTest {
         roundOfTurns();
         roundOfPlaces();
         roundOfRights();
+        roundFromAPlace();
         roundAtTheEnd();
         orderOfAll();
         orderByEach();
@@ -202,6 +203,19 @@ public final class ThrowsToComeEdgesTest {
         Check.due("30: as alone", z, z.round(), 16, 9);
         z.passes();
         Check.due("30: a fault first", z, z.round(), 17, 10);
+    }
+
+    /** PLACE one less, RIGHTS some more and THROWS by 7 as they were: not the same, though all are held as one number. */
+    private static void roundFromAPlace() {
+        HopCourts x = made("22", "40", "0");
+        x.plays(1);
+        // Behind 3 + 8 * 4 THROWS: PLACE 0, RIGHTS 9 first; from there on round by 4 and 7.
+        Check.due("30: PLACE 1, RIGHTS 0 is not PLACE 0, RIGHTS 9", x, x.round(), 63, 35);
+        HopCourts y = made("2222", "40", "0");
+        y.plays(1);
+        y.fits();
+        // Behind 7 + 7 * 8 THROWS: PLACE 0, RIGHTS 8; RIGHTS are 9 behind 71, and 56 more are too many.
+        Check.due("30: PLACE 1, RIGHTS 0 is not PLACE 0, RIGHTS 8", y, y.round(), -2, 1);
     }
 
     /** 30: "Behind how many THROWS (1 .. 99)", "-2: behind none of these". */
